@@ -1,18 +1,28 @@
 import java.util.Random;
 
-/** Rules 7 and 11 of LANGUAGE.md: no call throws, whatever its arguments, and the same calls answer the same. */
+/** Rules 7 and 11 of LANGUAGE.md: no call throws or does not end, whatever its arguments, and the same calls answer the same. */
 public final class AnythingTest {
     private static final int[] EDGES = {Integer.MIN_VALUE, Integer.MIN_VALUE + 1, -1030301, -102, -101, -2, -1, 0, 1, 2,
         3, 4, 5, 6, 7, 8, 20, 21, 24, 25, 30, 31, 100, 101, 102, 10201, 10303, 1030300, 1030301, 21262214, 21262215,
         Integer.MAX_VALUE - 1, Integer.MAX_VALUE};
+    private static final int[] FEW = {Integer.MIN_VALUE, Integer.MIN_VALUE + 1, -101, -2, -1, 0, 1, 2, 3, 4, 50, 101,
+        102, 1030300, 1030301, Integer.MAX_VALUE - 1, Integer.MAX_VALUE};
+    private static final Due due = new Due();
 
     public static void main(String[] args) {
-        Due due = new Due();
+        anyRun();
+        allEndsTogether();
+        everyIntAlone();
+        longAfterTheLastCall();
+        due.end();
+    }
+
+    private static void anyRun() {
+        due.says(0, "Rule 11: the same calls always give the same answers");
         for (int seed = 0; seed < 200; seed++) {
             long first = run(seed);
-            due.is(0, "run " + seed + " once more", run(seed), first);
+            due.is("run " + seed + " once more", run(seed), first);
         }
-        due.end();
     }
 
     private static long run(int seed) {
@@ -57,5 +67,86 @@ public final class AnythingTest {
             case 24: return random.nextInt(10) == 0 ? x.crash() : x.save(24);
             default: return x.open(a);
         }
+    }
+
+    /** Every call with every mixture of a few ends, in every scene. */
+    private static void allEndsTogether() {
+        due.says(0, "Rule 7: No call may ever throw or fail to end, for any arguments in any state");
+        for (Scene scene : Scene.values()) {
+            for (int a : FEW) {
+                for (int b : FEW) {
+                    endsOfFour(scene.make(), a, b);
+                    endsOfTwo(scene.make(), a, b);
+                }
+                endsOfOne(scene.make(), a);
+            }
+            due.is("all calls in " + scene + " have ended", true, true);
+        }
+    }
+
+    private static void endsOfFour(WatchTree x, int a, int b) {
+        for (int c : FEW) {
+            for (int d : FEW) {
+                x.create(a, b, c, d);
+                x.set(a, b, c, d);
+                x.part(a, b, c, d);
+            }
+            x.multi(a);
+            x.remove(a, b, c);
+            x.watch(a, b, c);
+        }
+    }
+
+    private static void endsOfTwo(WatchTree x, int a, int b) {
+        x.node(a, b);
+        x.child(a, b);
+        x.watch(0, a, b);
+        x.watch(a, 2, b);
+        x.part(0, a, 0, b & 3);
+        x.part(2, a, 0, b);
+        x.multi(0);
+    }
+
+    private static void endsOfOne(WatchTree x, int a) {
+        x.left(a);
+        x.event(a);
+        x.touch(a);
+        x.save(a);
+        x.multi(a);
+        x.open(a);
+        x.pass(a);
+        x.close(a);
+        x.crash();
+    }
+
+    /** Some ten million ints, spread over all of them, for each argument that is looked at by its size. */
+    private static void everyIntAlone() {
+        due.says(0, "Rule 7: No call may ever throw or fail to end, for any arguments in any state");
+        WatchTree x = Scene.LOG_FULL.make();
+        long taken = 0;
+        for (long i = Integer.MIN_VALUE; i <= Integer.MAX_VALUE; i += 419) {
+            int n = (int) i;
+            taken += x.node(n, 0) != WatchTree.NOTHING ? 1 : 0;
+            taken += x.child(n, 0) != WatchTree.REFUSED ? 1 : 0;
+            taken += x.close(n) != WatchTree.REFUSED ? 1 : 0;
+            taken += x.save(n) != WatchTree.REFUSED ? 1 : 0;
+            taken += x.pass(n) != WatchTree.REFUSED ? 1 : 0;
+            taken += x.part(n, 0, 0, 0) != WatchTree.REFUSED ? 1 : 0;
+        }
+        due.is("none of these ints is near 0", taken, 0);
+    }
+
+    /** What an object answers after its 512th call is free, but it answers: here the time has gone round. */
+    private static void longAfterTheLastCall() {
+        due.says(0, "Rule 7: No call may ever throw or fail to end, for any arguments in any state");
+        WatchTree x = new WatchTree();
+        for (int i = 0; i < 80_000_000; i++) {
+            x.pass(30);
+        }
+        Random random = new Random(512);
+        for (int call = 0; call < 5000; call++) {
+            any(x, random);
+        }
+        due.is("all calls have ended", true, true);
     }
 }

@@ -9,7 +9,9 @@ import java.util.ArrayList;
 import java.util.Arrays;
 import java.util.HashSet;
 import java.util.List;
+import java.util.Map;
 import java.util.Set;
+import java.util.TreeMap;
 import java.util.TreeSet;
 import java.util.regex.Matcher;
 import java.util.regex.Pattern;
@@ -118,6 +120,48 @@ public final class FaceTest {
         }
         callsInArguments(code);
         lengths(code);
+        callsAreNotDeep(code);
+        loopsCount(code);
+    }
+
+    /** Which methods of the class each of its methods calls. */
+    private static Map<String, Set<String>> calls(String code) {
+        Map<String, Set<String>> calls = new TreeMap<>();
+        Set<String> called = new TreeSet<>();
+        Pattern call = Pattern.compile("\\b(\\w+)\\(");
+        for (String line : code.split("\n")) {
+            Matcher m = call.matcher(line);
+            if (line.matches(" {4}(public|private) .*\\) \\{") && m.find()) {
+                called = new TreeSet<>();
+                calls.put(m.group(1), called);
+            }
+            while (m.find()) {
+                called.add(m.group(1));
+            }
+        }
+        calls.values().forEach(names -> names.retainAll(calls.keySet()));
+        return calls;
+    }
+
+    private static void callsAreNotDeep(String code) {
+        Map<String, Set<String>> calls = calls(code);
+        due.is(0, "rule 10: methods found", calls.keySet().containsAll(List.of("open", "multi", "crash")), true);
+        Set<String> level = new TreeSet<>(calls.keySet());
+        for (int deep = 1; deep <= 6; deep++) {
+            Set<String> next = new TreeSet<>();
+            level.forEach(name -> next.addAll(calls.get(name)));
+            level = next;
+        }
+        // A recursion would never come to an end here, so this tells of rule 8 as well.
+        due.is(0, "rules 8, 10: called seven deep " + level, level.size(), 0);
+    }
+
+    private static void loopsCount(String code) {
+        Matcher loops = Pattern.compile("\\b(for|while|do)\\b(.*)").matcher(code);
+        while (loops.find()) {
+            boolean counts = loops.group().matches("for \\(int (\\w+) = \\d+; .*\\b\\1 < [A-Z_]+\\b.*; \\1(\\+\\+| \\+= [A-Z_]+)\\) \\{");
+            due.is(0, "rule 8: the end of the loop " + loops.group(), counts, true);
+        }
     }
 
     private static void callsInArguments(String code) {
