@@ -4,6 +4,7 @@ public final class LogEdgesTest {
 
     public static void main(String[] args) {
         logAtFirst();
+        howManyTheLogHas();
         fortyOrMore();
         whatLogFullLeaves();
         closingIsNotLogFull();
@@ -38,6 +39,30 @@ public final class LogEdgesTest {
             }
             due.is("logged()", x.logged(), i);
         }
+    }
+
+    private static void howManyTheLogHas() {
+        due.says(21, "How many transactions the log has.");
+        WatchTree x = new WatchTree();
+        x.open(20);
+        x.open(1);
+        x.create(0, 1, 0, 1);
+        x.create(0, 1, 0, 1);
+        x.part(0, 2, 0, 0);
+        x.part(0, 3, 0, 0);
+        x.multi(0);
+        due.is("two openings, a CREATE, a multi request", x.logged(), 4);
+        due.is("pass(1)", x.pass(1), 1);
+        due.is("a closing by time", x.logged(), 5);
+        x.touch(0);
+        x.watch(0, 0, 0);
+        x.save(23);
+        x.crash();
+        due.is("none of these", x.logged(), 5);
+        x.save(24);
+        due.is("after a snapshot", x.logged(), 0);
+        due.is("close(0)", x.close(0), 1);
+        due.is("a closing with its node", x.logged(), 1);
     }
 
     private static void fortyOrMore() {

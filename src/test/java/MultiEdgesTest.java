@@ -23,7 +23,9 @@ public final class MultiEdgesTest {
         flagsOfParts();
         partLooksAtNothingElse();
         whatIsNotLookedAt();
+        dataFlagsAndVersion();
         oneToSixParts();
+        noneWaitsThen();
         eachWrongAtEachPlace();
         firstWrongCounts();
         nothingHasBeenDone();
@@ -124,6 +126,43 @@ public final class MultiEdgesTest {
             due.is("multi(0) with a = " + a, x.multi(0), 6);
             due.node(x, 1, 5, 0, 1, 3, 3, -1, 1);
             due.is("state()", x.state(), 3 + 16 * 2);
+        }
+    }
+
+    private static void dataFlagsAndVersion() {
+        due.says(9, "kind 0 CREATE path, a = data, b = flags, 1 SET path, a = data, b = version");
+        int[] ends = {Integer.MIN_VALUE, -1, 0, 1, Integer.MAX_VALUE};
+        for (int flags = 0; flags < 4; flags++) {
+            WatchTree x = Make.withSessions(2);
+            for (int data : ends) {
+                int made = flags < 2 ? x.latest() + 50 : Make.path((int) x.node(0, 2));
+                x.part(0, x.latest() + 50, data, flags);
+                due.is("multi(1) with flags " + flags + ", data " + data, x.multi(1) > 0, true);
+                due.is("the data", x.node(made, 0), data);
+                due.is("the owner", x.node(made, 5), flags % 2 == 1 ? 1 : -1);
+            }
+        }
+        WatchTree y = withTree();
+        for (int i = 0; i < ends.length; i++) {
+            y.part(1, 1, ends[i], i + 1);
+            due.is("a version above", y.multi(0), WatchTree.VERSION);
+            y.part(1, 1, ends[i], i);
+            due.is("the version", y.multi(0), 6 + i);
+            due.is("the data", y.node(1, 0), ends[i]);
+            due.is("the version then", y.node(1, 1), i + 1);
+        }
+        y.part(1, 1, 8, -1);
+        due.is("any version", y.multi(0), 11);
+    }
+
+    private static void noneWaitsThen() {
+        due.says(10, "Does the waiting parts (none waits then) as a multi request: the number of the transaction.");
+        WatchTree x = Make.withSessions(2);
+        for (int i = 1; i <= 10; i++) {
+            checks(x, 1 + i % 6);
+            due.is("multi(" + i % 2 + ")", x.multi(i % 2), 2 + i);
+            due.is("latest()", x.latest(), 2 + i);
+            due.is("none waits", x.multi(i % 2), WatchTree.REFUSED);
         }
     }
 

@@ -49,7 +49,7 @@ public final class NothingChangesTest {
     }
 
     private static void sessionsThatAreNone(Scene scene) {
-        due.says(0, "SESSIONS 0 .. 3");
+        due.says(0, "SESSIONS 0 .. 3 are open or not");
         for (int s : Make.outside(0, 3)) {
             unchanged(scene, "close(" + s + ")", x -> x.close(s), WatchTree.REFUSED);
             unchanged(scene, "touch(" + s + ")", x -> x.touch(s) ? 1 : 0, 0);

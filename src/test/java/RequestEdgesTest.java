@@ -9,7 +9,9 @@ public final class RequestEdgesTest {
         parentIsThere();
         dataIsAnInt();
         allIsZeroAtFirst();
+        theRootHasNoOwner();
         createFlags();
+        createAnswersThePath();
         createNoPath();
         createNoNode();
         createChildless();
@@ -23,9 +25,11 @@ public final class RequestEdgesTest {
         createGrowsTheParent();
         setWrongs();
         setGrowsTheVersion();
+        setGetsTheData();
         removeWrongs();
         removeOrder();
         removeGrowsTheParent();
+        removedIsGone();
         refusedThenLogFullThenWrong();
         due.end();
     }
@@ -133,6 +137,24 @@ public final class RequestEdgesTest {
         due.node(x, 6, 0, 0, 0, 31, 31, -1, 0);
     }
 
+    private static void theRootHasNoOwner() {
+        due.says(0, "an OWNER: a session, or -1. All but the owner are 0 at first (CREATED and SET are the making transaction), the root's owner is -1.");
+        WatchTree x = Make.withSessions(4);
+        for (int session = 0; session < 4; session++) {
+            due.is("create of " + session, x.create(session, session + 1, 0, 1), session + 1);
+            due.is("the owner", x.node(session + 1, 5), session);
+            x.set(session, 0, 0, -1);
+            due.is("the root's", x.node(0, 5), -1);
+        }
+        x.set(3, 1, 0, -1);
+        due.is("another's SET does not change it", x.node(1, 5), 0);
+        due.is("create of none's", x.create(3, 60, 0, 0), 60);
+        due.is("none", x.node(60, 5), -1);
+        due.is("close(0)", x.close(0), 1);
+        due.is("the root's", x.node(0, 5), -1);
+        due.is("below the root is not childless", x.create(1, 1, 0, 0), 1);
+    }
+
     private static void createFlags() {
         due.says(0, "CREATE path, data, flags (1 owned, 2 numbered, 3 both, 0 neither)");
         for (int flags = -2; flags <= 6; flags++) {
@@ -145,6 +167,23 @@ public final class RequestEdgesTest {
             due.is("node(" + made + ", 5)", x.node(made, 5), isOne ? owner : WatchTree.NOTHING);
             due.is("close(1)", x.close(1), isOne && owner == 1 ? 1 : 0);
         }
+    }
+
+    private static void createAnswersThePath() {
+        due.says(6, "CREATE: the path of the new node; REFUSED if the session is not open or flags not 0 .. 3; LOG_FULL; or what is wrong.");
+        WatchTree x = Make.withSessions(1);
+        int[] line = {Make.path(99), Make.path(99, 0), Make.path(99, 0, 99)};
+        for (int path : line) {
+            due.is("create(0, " + path + ", 0, 0)", x.create(0, path, 0, 0), path);
+        }
+        due.is("numbered", x.create(0, Make.path(99, 0, 99), 0, 2), Make.path(99, 0, 1));
+        due.is("not open", x.create(1, 60, 0, 0), WatchTree.REFUSED);
+        due.is("no flags", x.create(0, 60, 0, 4), WatchTree.REFUSED);
+        due.is("wrong", x.create(0, line[0], 0, 0), WatchTree.EXISTS);
+        Make.fillLog(x, 39);
+        due.is("the 40th", x.create(0, 60, 0, 0), 60);
+        due.is("a 41st", x.create(0, 61, 0, 0), WatchTree.LOG_FULL);
+        due.is("a 41st that is wrong", x.create(0, line[0], 0, 0), WatchTree.LOG_FULL);
     }
 
     private static void createNoPath() {
@@ -341,6 +380,19 @@ public final class RequestEdgesTest {
         due.node(x, 0, 0, 0, 1, 0, 0, -1, 1);
     }
 
+    private static void setGetsTheData() {
+        due.says(0, "The node gets the data, its version grows by 1, its SET becomes the transaction.");
+        WatchTree x = Make.withNodes(2);
+        x.create(0, Make.path(0, 0), 3, 1);
+        x.set(0, Make.path(0, 0), Integer.MIN_VALUE, 0);
+        x.set(0, Make.path(0, 0), Integer.MAX_VALUE, 1);
+        due.node(x, Make.path(0, 0), Integer.MAX_VALUE, 2, 0, 4, 6, 0, 0);
+        due.node(x, 1, 0, 0, 1, 2, 2, -1, 1);
+        due.node(x, 2, 0, 0, 0, 3, 3, -1, 0);
+        x.set(0, Make.path(0, 0), Integer.MAX_VALUE, -1);
+        due.node(x, Make.path(0, 0), Integer.MAX_VALUE, 3, 0, 4, 7, 0, 0);
+    }
+
     private static void removeWrongs() {
         due.says(0, "REMOVE path, version: NO_PATH: no path, or the root. NO_NODE. VERSION. CHILDREN: the node has some.");
         WatchTree x = Make.withNodes(2);
@@ -384,6 +436,20 @@ public final class RequestEdgesTest {
         due.is("below the root", x.remove(0, 2, -1), 4);
         due.node(x, 0, 0, 0, 4, 0, 0, -1, 0);
         due.is("state()", x.state(), 1);
+    }
+
+    private static void removedIsGone() {
+        due.says(0, "The node is gone, the parent's child version grows by 1.");
+        WatchTree x = Make.withNodes(20);
+        for (int i = 20; i >= 1; i--) {
+            x.save(24);
+            due.is("remove(0, " + i + ", 0)", x.remove(0, i, 0), 41 - i);
+            due.is("node(" + i + ", 0)", x.node(i, 0), WatchTree.NOTHING);
+            due.is("state()", x.state(), 1 + 16 * (i - 1));
+            due.is("node(0, 2)", x.node(0, 2), 41 - i);
+        }
+        due.is("child(0, 0)", x.child(0, 0), WatchTree.REFUSED);
+        due.is("remove(0, 1, 0) again", x.remove(0, 1, 0), WatchTree.NO_NODE);
     }
 
     private static void refusedThenLogFullThenWrong() {

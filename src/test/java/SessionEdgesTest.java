@@ -7,6 +7,8 @@ public final class SessionEdgesTest {
         timeIsZeroAtFirst();
         timeoutsOneToTwenty();
         fourSessions();
+        openWithALogOfForty();
+        timeoutAndDeadlineOfEach();
         deadlineIsTimePlusTimeout();
         leastThatIsNotOpen();
         openingIsOneTransaction();
@@ -87,6 +89,45 @@ public final class SessionEdgesTest {
         x.close(3);
         due.is("room again", x.open(20), 3);
         due.is("a fifth", x.open(1), WatchTree.REFUSED);
+    }
+
+    private static void openWithALogOfForty() {
+        due.says(2, "REFUSED if timeout is not 1 .. 20, or all are open; LOG_FULL.");
+        for (int logged = 39; logged <= 41; logged++) {
+            WatchTree x = Make.withSessions(2);
+            Make.fillLog(x, Math.min(logged, 40));
+            if (logged == 41) {
+                x.close(1);
+            }
+            int least = logged == 41 ? 1 : 2;
+            int open = logged == 41 ? 1 : 3;
+            due.is("open(5) with " + logged, x.open(5), logged < 40 ? least : WatchTree.LOG_FULL);
+            due.is("state()", x.state(), logged < 40 ? 7 : open);
+            due.is("left(" + least + ")", x.left(least), logged < 40 ? 5 : WatchTree.REFUSED);
+            due.is("latest()", x.latest(), Math.max(logged, 40));
+            x.save(24);
+            due.is("open(5) after a snapshot", x.open(5), logged < 40 ? 3 : least);
+        }
+    }
+
+    private static void timeoutAndDeadlineOfEach() {
+        due.says(0, "SESSIONS 0 .. 3 are open or not, each with a TIMEOUT (1 .. 20) and a DEADLINE.");
+        int[] timeouts = {1, 20, 2, 19};
+        WatchTree x = new WatchTree();
+        for (int session = 0; session < 4; session++) {
+            due.is("open(" + timeouts[session] + ")", x.open(timeouts[session]), session);
+        }
+        for (int time = 1; time <= 20; time++) {
+            int closed = 0;
+            for (int timeout : timeouts) {
+                closed += timeout == time ? 1 : 0;
+            }
+            due.is("pass(1) to " + time, x.pass(1), closed);
+            for (int session = 0; session < 4; session++) {
+                int left = timeouts[session] - time;
+                due.is("left(" + session + ") at " + time, x.left(session), left > 0 ? left : WatchTree.REFUSED);
+            }
+        }
     }
 
     private static void deadlineIsTimePlusTimeout() {
