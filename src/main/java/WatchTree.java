@@ -342,7 +342,10 @@ public final class WatchTree {
     // ---- multi requests ----
 
     public int part(int kind, int path, int a, int b) {
-        if (partCount >= MOST_PARTS || kind < KIND_CREATE || kind > KIND_CHECK) {
+        if (partCount < 0 || partCount >= MOST_PARTS) {
+            return REFUSED;
+        }
+        if (kind < KIND_CREATE || kind > KIND_CHECK) {
             return REFUSED;
         }
         if (kind == KIND_CREATE && !areFlags(b)) {
@@ -393,7 +396,7 @@ public final class WatchTree {
     // ---- transactions and what they tell ----
 
     private void noteChange(int kind, int path) {
-        if (changeCount < MOST_NODES) {
+        if (changeCount >= 0 && changeCount < MOST_NODES) {
             changeKinds[changeCount] = kind;
             changePaths[changeCount] = path;
             changeCount++;
@@ -422,7 +425,7 @@ public final class WatchTree {
         for (int session = 0; session < SESSIONS; session++) {
             boolean told = takeWatchesAway(session, path, watchKindBits);
             int count = eventCounts[session];
-            if (told && count < MOST_EVENTS) {
+            if (told && count >= 0 && count < MOST_EVENTS) {
                 events[session * MOST_EVENTS + count] = event;
                 eventCounts[session] = count + 1;
             }

@@ -1,6 +1,9 @@
+import java.lang.reflect.Field;
+import java.lang.reflect.Modifier;
+import java.util.Arrays;
 import java.util.Random;
 
-/** Rules 7 and 11 of LANGUAGE.md: no call throws or does not end, whatever its arguments, and the same calls answer the same. */
+/** Rules 7 and 11 of LANGUAGE.md: no call throws or does not end, whatever its arguments and state, and the same calls answer the same. */
 public final class AnythingTest {
     private static final int[] EDGES = {Integer.MIN_VALUE, Integer.MIN_VALUE + 1, -1030301, -102, -101, -2, -1, 0, 1, 2,
         3, 4, 5, 6, 7, 8, 20, 21, 24, 25, 30, 31, 100, 101, 102, 10201, 10303, 1030300, 1030301, 21262214, 21262215,
@@ -9,8 +12,10 @@ public final class AnythingTest {
         102, 1030300, 1030301, Integer.MAX_VALUE - 1, Integer.MAX_VALUE};
     private static final Due due = new Due();
 
-    public static void main(String[] args) {
+    public static void main(String[] args) throws IllegalAccessException {
         anyRun();
+        anyNumberInEachField();
+        anyNumbersInAllFields();
         allEndsTogether();
         everyIntAlone();
         longAfterTheLastCall();
@@ -66,6 +71,73 @@ public final class AnythingTest {
             case 23: return x.logged();
             case 24: return random.nextInt(10) == 0 ? x.crash() : x.save(24);
             default: return x.open(a);
+        }
+    }
+
+    /** Also a state that no calls lead to: then each index is looked at where it is used, not only known to fit. */
+    private static void anyNumberInEachField() throws IllegalAccessException {
+        due.says(0, "Rule 7: an index is looked at before it is used, a divisor before it divides");
+        for (Field field : WatchTree.class.getDeclaredFields()) {
+            if (Modifier.isStatic(field.getModifiers())) {
+                continue;
+            }
+            for (Scene scene : Scene.values()) {
+                for (int number : EDGES) {
+                    Random random = new Random(number);
+                    WatchTree x = scene.make();
+                    for (int call = 0; call < 40; call++) {
+                        fill(x, field, number);
+                        ends(field.getName() + " = " + number + " in " + scene, x, random);
+                    }
+                }
+            }
+        }
+    }
+
+    private static void anyNumbersInAllFields() throws IllegalAccessException {
+        due.says(0, "Rule 7: No call may ever throw or fail to end, for any arguments in any state");
+        for (int seed = 0; seed < 20_000; seed++) {
+            Random random = new Random(seed);
+            WatchTree x = Scene.values()[seed % 4].make();
+            for (Field field : WatchTree.class.getDeclaredFields()) {
+                if (!Modifier.isStatic(field.getModifiers()) && random.nextBoolean()) {
+                    fillAnyhow(x, field, random);
+                }
+            }
+            for (int call = 0; call < 40; call++) {
+                ends("state " + seed, x, random);
+            }
+        }
+    }
+
+    private static void ends(String state, WatchTree x, Random random) {
+        boolean ended = false;
+        try {
+            any(x, random);
+            ended = true;
+        } catch (RuntimeException e) {
+            // The machine leaves the trace out once it has thrown the same one often.
+            StackTraceElement[] trace = e.getStackTrace();
+            System.out.println(trace.length == 0 ? e : e + " at " + trace[0]);
+        }
+        due.is("a call ends, " + state, ended, true);
+    }
+
+    private static void fill(WatchTree x, Field field, int number) throws IllegalAccessException {
+        field.setAccessible(true);
+        if (field.get(x) instanceof int[] numbers) {
+            Arrays.fill(numbers, number);
+        } else {
+            field.setInt(x, number);
+        }
+    }
+
+    private static void fillAnyhow(WatchTree x, Field field, Random random) throws IllegalAccessException {
+        field.setAccessible(true);
+        if (field.get(x) instanceof int[] numbers) {
+            Arrays.setAll(numbers, i -> value(random));
+        } else {
+            field.setInt(x, value(random));
         }
     }
 

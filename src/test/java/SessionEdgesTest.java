@@ -15,6 +15,7 @@ public final class SessionEdgesTest {
         refusedIsNoTransaction();
         closeCountsNodes();
         closingTakesGreatestFirst();
+        eachThatGoesThenItsParent();
         closingGrowsEachParent();
         closedIsToldNothing();
         closeRefused();
@@ -244,6 +245,27 @@ public final class SessionEdgesTest {
         // Greatest by number, so the deepest first: three names, then two, then one.
         due.events(x, 1, Make.GONE + Make.path(0, 0, 99), Make.GONE + Make.path(0, 0, 0), Make.GONE + Make.path(0, 99),
             Make.GONE + 100, Make.GONE + 50);
+    }
+
+    private static void eachThatGoesThenItsParent() {
+        due.says(0, "the nodes that go with a session, tell in their order, when all is done");
+        WatchTree x = Make.withSessions(3);
+        x.create(1, 1, 0, 0);
+        x.create(1, Make.path(0, 0), 0, 0);
+        for (int path : new int[] {2, Make.path(0, 1), Make.path(0, 0, 0), Make.path(0, 0, 1)}) {
+            x.create(0, path, 0, 1);
+            x.watch(1, 0, path);
+        }
+        for (int path : new int[] {0, 1, Make.path(0, 0)}) {
+            x.watch(1, 1, path);
+            x.watch(2, 1, path);
+        }
+        due.is("close(0)", x.close(0), 4);
+        // A watch tells once, so the second child that goes from 1/0 has no CHILDREN left to tell.
+        due.events(x, 1, Make.GONE + Make.path(0, 0, 1), Make.CHILDREN + Make.path(0, 0), Make.GONE + Make.path(0, 0, 0),
+            Make.GONE + Make.path(0, 1), Make.CHILDREN + 1, Make.GONE + 2, Make.CHILDREN);
+        due.events(x, 2, Make.CHILDREN + Make.path(0, 0), Make.CHILDREN + 1, Make.CHILDREN);
+        due.is("watches()", x.watches(), 0);
     }
 
     private static void closingGrowsEachParent() {
